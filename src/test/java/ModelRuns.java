@@ -45,6 +45,8 @@ public final class ModelRuns {
             else if (random.nextInt(25) == 0) paintTruth();
             else if (random.nextInt(30) == 0) fillCalls(random.nextInt(6));
             else if (random.nextInt(40) == 0) sortStreet();
+            else if (random.nextInt(60) == 0) fillWrongs(random.nextInt(6));
+            else if (random.nextInt(40) == 0) shareRows();
             else {
                 Method m = FACE.get(random.nextInt(FACE.size()));
                 ask(m, argsFor(m));
@@ -81,6 +83,27 @@ public final class ModelRuns {
         for (int i = 0; i < n; i++) {
             ask("put", shelf, i, (long) (random.nextInt(20) == 0 ? -1 : random.nextInt(12 * Math.max(1, wrongs)) + random.nextInt(8) / 7 * 12));
         }
+    }
+
+    /** Threes of bytes, most of them so, at times with one too few at the end. */
+    private void fillWrongs(int shelf) throws Exception {
+        int n = 1 + random.nextInt(14);
+        ask("row", shelf, 0, n);
+        int folk = Math.max(1, people);
+        for (int i = 0; i < n; i++) {
+            ask("put", shelf, i, (long) (i % 3 == 2 ? 1 + random.nextInt(9) + random.nextInt(15) / 14 * 9 : random.nextInt(folk)));
+        }
+        ask("wrongs", shelf, random.nextInt(4) == 0 ? 3 : 0, 1 + random.nextInt(5));
+        ask("wrongs", shelf, random.nextInt(n), 1 + random.nextInt(12));
+    }
+
+    private void shareRows() throws Exception {
+        int sort = random.nextInt(5), one = random.nextInt(6), other = random.nextInt(6);
+        ask("row", one, sort, 10);
+        for (int i = 0; i < 10; i++) ask("put", one, i, random.nextLong());
+        if (random.nextBoolean()) ask("row", other, sort, 8);
+        for (int k = 0; k < 3; k++) ask("shift", one, random.nextInt(6), other, random.nextInt(6), random.nextInt(7) - 1);
+        for (int i = 0; i < 10; i++) ask("element", other, i);
     }
 
     /** Paints what the model holds to be so, then judges and fits. */
@@ -191,6 +214,8 @@ public final class ModelRuns {
             case "put": case "element": return i == 0 ? random.nextInt(6) : random.nextInt(30);
             case "shift": return i == 0 || i == 2 ? random.nextInt(6) : random.nextInt(20);
             case "wrongs": return i == 0 ? random.nextInt(6) : i == 1 ? random.nextInt(20) : random.nextInt(13);
+            case "run": case "evening": return random.nextInt(3);
+            case "count": case "led": return random.nextInt(7);
             default: return random.nextInt(10);
         }
     }
