@@ -148,7 +148,7 @@ public final class ForgivenStreet {
             int home = folk.houses[folk.to[w]];
             eve.offer(w, folk.by[w], home, worth(now, w, home));
         }
-        eve.search(0, 0, 0, 0, 0);
+        eve.search();
         return what == 0 ? eve.bestSum : eve.bestBits;
     }
 
@@ -482,7 +482,6 @@ public final class ForgivenStreet {
     private int addWrong(int by, int to, int weight) {
         int w = folk.offend(by, to, weight);
         now.days[w] = now.today;
-        now.setForgiven(w, false);
         return w;
     }
 
@@ -550,17 +549,14 @@ public final class ForgivenStreet {
         int best = 0;
         for (int i = 0; i < HOUSES; i++) {
             lengths[i] = 1;
-            int before = 0;
+            masks[i] = 1 << i;
+            // of like long ones that with the earlier end has the lesser mask: it stays
             for (int j = 0; j < i; j++) {
-                if (now.numbers[j] >= now.numbers[i]) continue;
-                boolean longer = lengths[j] + 1 > lengths[i];
-                if (longer || lengths[j] + 1 == lengths[i] && masks[j] < before) {
+                if (now.numbers[j] < now.numbers[i] && lengths[j] + 1 > lengths[i]) {
                     lengths[i] = lengths[j] + 1;
-                    before = masks[j];
+                    masks[i] = masks[j] | 1 << i;
                 }
             }
-            masks[i] = before | 1 << i;
-            // a later end has the greater mask, so only a longer one is better
             if (lengths[i] > lengths[best]) best = i;
         }
         return best;
@@ -1042,8 +1038,12 @@ public final class ForgivenStreet {
             size++;
         }
 
+        void search() {
+            choose(0, 0, 0, 0, 0);
+        }
+
         /** From the k-th offer on; doersBits and homesBits are taken by the bits chosen. */
-        void search(int k, int sum, int bits, int doersBits, int homesBits) {
+        private void choose(int k, int sum, int bits, int doersBits, int homesBits) {
             if (k >= size) {
                 if (isBetter(sum, bits)) {
                     bestSum = sum;
@@ -1055,9 +1055,9 @@ public final class ForgivenStreet {
             int doer = 1 << doers[k];
             int home = 1 << homes[k];
             if ((doersBits & doer) == 0 && (homesBits & home) == 0) {
-                search(k + 1, sum + worths[k], bits | 1 << wrongs[k], doersBits | doer, homesBits | home);
+                choose(k + 1, sum + worths[k], bits | 1 << wrongs[k], doersBits | doer, homesBits | home);
             }
-            search(k + 1, sum, bits, doersBits, homesBits);
+            choose(k + 1, sum, bits, doersBits, homesBits);
         }
 
         private int restFrom(int k) {

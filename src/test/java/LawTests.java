@@ -100,6 +100,11 @@ public final class LawTests {
         counts("0;5", 0);
         counts("1?0;5", 0);
         counts("0?1;0?2;0?3;0?4;5;6", 5);
+        counts("1?0|4", 1);
+        counts("0|1?3", 3);
+        counts("1?((((((8))))))", 8);
+        counts("((((((1))))))?8", 8);
+        counts("1?4;((((((8))))))", 4);
         counts("w>6?a/10;h", 3);
         counts("w>7?a/10;h", 4);
     }

@@ -47,6 +47,7 @@ public final class ModelRuns {
             else if (random.nextInt(40) == 0) sortStreet();
             else if (random.nextInt(60) == 0) fillWrongs(random.nextInt(6));
             else if (random.nextInt(40) == 0) shareRows();
+            else if (random.nextInt(40) == 0) takeTurns();
             else {
                 Method m = FACE.get(random.nextInt(FACE.size()));
                 ask(m, argsFor(m));
@@ -95,6 +96,15 @@ public final class ModelRuns {
         }
         ask("wrongs", shelf, random.nextInt(4) == 0 ? 3 : 0, 1 + random.nextInt(5));
         ask("wrongs", shelf, random.nextInt(n), 1 + random.nextInt(12));
+    }
+
+    private void takeTurns() throws Exception {
+        int folk = Math.max(2, people);
+        for (int k = 0; k < 4; k++) {
+            int ab = random.nextInt(folk) * 10 + random.nextInt(folk);
+            ask("byTurns", ab, 3 + random.nextInt(2), 0);
+            ask("byTurns", ab, 3 + random.nextInt(2), 1);
+        }
     }
 
     private void shareRows() throws Exception {

@@ -26,6 +26,7 @@ public final class PromiseTests {
         p25to29();
         p30and31();
         p32and33();
+        dropped();
         p34to36();
         p37to40();
         p41();
@@ -457,6 +458,13 @@ public final class PromiseTests {
         int[] due = {6, 0, 7, 2, 10, 3, 11, 1, 8, 9};
         for (int p = 0; p < 10; p++) C.due("chosen", x.chosen(p), due[p]);
         C.due("nothing is kept", x.chosen(0), 6);
+        ForgivenStreet y = new ForgivenStreet();
+        for (int h = 0; h < 12; h++) y.mend(h, 0, 999);
+        y.person(0);
+        y.person(0);
+        y.mend(1, 2, 0);
+        C.due("as far as can be", y.chosen(1), 1);
+        C.due("as far as can be", y.nearest(0), 0);
     }
 
     private static void p21() {
@@ -556,6 +564,22 @@ public final class PromiseTests {
         C.due("one wrong, one turn", x.byTurns(10, 1, 1), 2);
         enact(x, "n=0?w-2;w*3");
         C.due("0 does not count", x.byTurns(1, 3, 0), 1 - 3 + 6 - 0);
+        enact(x, "n=0&w=2?1;n=0&w=3?2;n=1?9;n=2?3");
+        C.due("the order counts", x.byTurns(1, 3, 0), 10);
+        C.due("the lighter one first", x.byTurns(1, 3, 1), 0);
+        enact(x, "n=0&w=2?2;n=0&w=3?1;n=1?9;n=2?3");
+        C.due("the heavier one first", x.byTurns(1, 3, 1), 1);
+        x.mend(0, 5, 1);
+        C.due("forgiven ones are none", x.byTurns(1, 3, 0), 1);
+        enact(x, "w");
+        C.due("forgiven ones are none", x.byTurns(1, 4, 0), -2);
+        C.due("forgiven ones are none", x.byTurns(1, 1, 1), 1);
+        C.due("nothing first", x.byTurns(1, 3, 1), 12);
+        x.mend(0, 0, 998);
+        C.due("999 at most", x.byTurns(1, 1, 0), 999);
+        C.due("999 at most", x.byTurns(1, 2, 0), 994);
+        x.mend(0, 0, 0);
+        x.mend(0, 5, 0);
         x.mend(1, 1, 0);
         C.due("one house", x.byTurns(1, 4, 0), 0);
         C.due("one house", x.byTurns(1, 4, 1), 12);
@@ -697,10 +721,33 @@ public final class PromiseTests {
         C.due("none", x.undo(), STATE);
         C.due("the fortieth from the end", x.of(3, 0), 10);
         C.due("redo", x.redo(), 39);
+        C.due("redo", x.redo(), 38);
+        x.undo();
         x.slam(3);
         x.slam(3);
         C.due("deeds stay, the change lays its number back", x.undo(), 0);
         C.due("number", x.of(3, 0), 10);
+    }
+
+    /** The oldest of unlike changes are dropped whole. */
+    private static void dropped() {
+        C.part("promises 32, 33, dropped");
+        ForgivenStreet x = weighing();
+        for (int i = 0; i < 45; i++) {
+            int what = i % 3;
+            x.mend(what == 0 ? i % 12 : i % 3, what, 1 + i % 11);
+        }
+        C.due("45 told, 40 kept", x.count(3), 40);
+        ForgivenStreet y = weighing();
+        for (int i = 0; i < 5; i++) {
+            int what = i % 3;
+            y.mend(what == 0 ? i % 12 : i % 3, what, 1 + i % 11);
+        }
+        for (int i = 0; i < 40; i++) x.undo();
+        C.due("none", x.undo(), STATE);
+        for (int h = 0; h < 12; h++) C.due("NUMBER", x.of(h, 0), y.of(h, 0));
+        for (int p = 0; p < 3; p++) C.due("HOUSE", x.of(p, 1), y.of(p, 1));
+        for (int p = 0; p < 3; p++) C.due("HEART", x.of(p, 2), y.of(p, 2));
     }
 
     private static void p34to36() {
