@@ -48,14 +48,14 @@ public final class ForgivenStreet {
     }
 
     public int wrongs(int shelf, int i, int n) {
-        if (!shelves.isShelf(shelf) || i < 0 || n < 1 || n > MOST_WRONGS) return BAD;
+        if (!shelves.isShelf(shelf) || n < 1 || n > MOST_WRONGS) return BAD;
         if (shelves.isEmpty(shelf)) return 0;
         if (!shelves.isRowOf(shelf, BYTES)) return OTHER_KIND;
         int came = 0;
         int at = i;
         for (int k = 0; k < n; k++) {
-            // written so that a place near the greatest int does not wrap
-            if (at > shelves.size(shelf) - 3 || folk.wrongs == MOST_WRONGS) return came;
+            // no place is BAD: where the row has nothing, it ends
+            if (!shelves.hasPart(shelf, at, 3) || folk.wrongs == MOST_WRONGS) return came;
             int by = (int) shelves.valueAt(shelf, at);
             int to = (int) shelves.valueAt(shelf, at + 1);
             int weight = (int) shelves.valueAt(shelf, at + 2);

@@ -95,7 +95,7 @@ public final class ModelRuns {
             ask("put", shelf, i, (long) (i % 3 == 2 ? 1 + random.nextInt(9) + random.nextInt(15) / 14 * 9 : random.nextInt(folk)));
         }
         ask("wrongs", shelf, random.nextInt(4) == 0 ? 3 : 0, 1 + random.nextInt(5));
-        ask("wrongs", shelf, random.nextInt(n), 1 + random.nextInt(12));
+        ask("wrongs", shelf, random.nextInt(n + 6) - 6, 1 + random.nextInt(12));
     }
 
     private void takeTurns() throws Exception {
@@ -223,7 +223,7 @@ public final class ModelRuns {
             case "row": return i == 0 ? random.nextInt(6) : i == 1 ? random.nextInt(6) : random.nextInt(62);
             case "put": case "element": return i == 0 ? random.nextInt(6) : random.nextInt(30);
             case "shift": return i == 0 || i == 2 ? random.nextInt(6) : random.nextInt(20);
-            case "wrongs": return i == 0 ? random.nextInt(6) : i == 1 ? random.nextInt(20) : random.nextInt(13);
+            case "wrongs": return i == 0 ? random.nextInt(6) : i == 1 ? random.nextInt(24) - 4 : random.nextInt(13);
             case "run": case "evening": return random.nextInt(3);
             case "count": case "led": return random.nextInt(7);
             default: return random.nextInt(10);

@@ -120,13 +120,20 @@ public final class PromiseTests {
         C.due("missing", x.wrongs(0, 0, 1), 0);
         for (int bad : new int[] {-1, 6, MIN, MAX}) C.due("shelf", x.wrongs(bad, 0, 1), BAD);
         for (int bad : new int[] {0, 13, -1, MIN, MAX}) C.due("n", x.wrongs(0, 0, bad), BAD);
-        C.due("place", x.wrongs(0, -1, 1), BAD);
+        for (int place : new int[] {-1, -3, 60, MIN, MAX}) {
+            C.due("missing, whatever the place", x.wrongs(0, place, 1), 0);
+            C.due("shelf, whatever the place", x.wrongs(6, place, 1), BAD);
+            C.due("n, whatever the place", x.wrongs(0, place, 13), BAD);
+        }
         fill(x, 0, 1, 0, 1, 5);
         C.due("shorts", x.wrongs(0, 0, 1), -12);
+        C.due("shorts, whatever the place", x.wrongs(0, -1, 1), -12);
+        C.due("shorts, least place", x.wrongs(0, MIN, 1), -12);
         C.due("bad ahead of -12", x.wrongs(0, 0, 0), BAD);
         x.body(0);
         x.keep(0, 0);
         C.due("door", x.wrongs(0, 0, 1), -12);
+        C.due("door, whatever the place", x.wrongs(0, -1, 1), -12);
         fill(x, 0, 0, 7, 0, 1, 5, 1, 0, 9, 0, 1);
         C.due("ends within a three", x.wrongs(0, 1, 12), 2);
         C.due("weights", x.of(0, 3) * 10 + x.of(1, 3), 59);
@@ -135,6 +142,12 @@ public final class PromiseTests {
         C.due("behind the end", x.wrongs(0, 9, 1), 0);
         C.due("last place", x.wrongs(0, 7, 1), 0);
         C.due("far behind", x.wrongs(0, MAX, 12), 0);
+        // from -2 and -3 on, a later three would lie within the row
+        for (int place : new int[] {-1, -2, -3, -60, MIN, MIN + 1}) C.due("ahead of the row", x.wrongs(0, place, 12), 0);
+        fill(x, 1, 0);
+        C.due("row of none", x.wrongs(1, 0, 1), 0);
+        C.due("ahead of a row of none", x.wrongs(1, -1, 1), 0);
+        C.due("none came", x.count(1), 3);
         fill(x, 1, 0, 0, 1, 5, 0, 1, 10, 0, 1, 5);
         C.due("weight not so", x.wrongs(1, 0, 3), 1);
         fill(x, 1, 0, 0, 1, 5, 0, 0, 5);

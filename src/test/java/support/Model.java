@@ -69,13 +69,13 @@ final class Model {
     }
 
     int wrongs(int shelf, int i, int n) {
-        if (!in(shelf, 0, 5) || i < 0 || !in(n, 1, 12)) return BAD;
+        if (!in(shelf, 0, 5) || !in(n, 1, 12)) return BAD;
         if (shelves[shelf] == null) return 0;
         if (!(shelves[shelf] instanceof byte[])) return -12;
         byte[] row = (byte[]) shelves[shelf];
         for (int k = 0; k < n; k++) {
             long at = i + 3L * k;
-            if (at + 2 >= row.length) return k;
+            if (at < 0 || at + 2 >= row.length) return k;
             int by = row[(int) at], to = row[(int) at + 1], weight = row[(int) at + 2];
             if (!isSo(by, to, weight) || wrong(by * 10 + to, weight) < 0) return k;
         }
