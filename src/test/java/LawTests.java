@@ -11,29 +11,9 @@ public final class LawTests {
         C.end("LawTests");
     }
 
-    private static int enact(ForgivenStreet x, String text) {
-        for (int i = 0; i < text.length(); i++) x.feed(text.charAt(i));
-        return x.law();
-    }
-
-    /** A street with one wrong: weight 7, 30 days ago, heart 4 of who bears it, two who see it in house 2, NUMBER 5. */
-    private static ForgivenStreet told() {
-        ForgivenStreet x = new ForgivenStreet();
-        x.person(1);
-        x.person(2);
-        x.person(2);
-        x.person(2);
-        x.person(3);
-        x.mend(1, 2, 4);
-        x.wrong(1, 7);
-        x.mend(0, 6, 30);
-        x.mend(2, 0, 5);
-        return x;
-    }
-
     private static void counts(String text, int want) {
-        ForgivenStreet x = told();
-        C.due("law " + text, enact(x, text), 1);
+        ForgivenStreet x = Streets.told();
+        C.due("law " + text, Streets.enact(x, text), 1);
         C.due(text, x.counts(0, 2), want);
     }
 
@@ -117,19 +97,19 @@ public final class LawTests {
         counts("s", 2);
         counts("n", 5);
         counts("o", 1);
-        ForgivenStreet x = told();
-        enact(x, "s*3+o");
+        ForgivenStreet x = Streets.told();
+        Streets.enact(x, "s*3+o");
         C.due("by is none that sees", x.counts(0, 1), 0);
         C.due("one sees", x.counts(0, 3), 3);
         C.due("nobody sees", x.counts(0, 4), 0);
         x.mend(0, 4, 90);
-        enact(x, "a+4");
+        Streets.enact(x, "a+4");
         C.due("0 days at least", x.counts(0, 1), 4);
     }
 
     private static void fault(String text, int want) {
-        ForgivenStreet x = told();
-        C.due("fault of " + text, enact(x, text), want < 0 ? 1 : -100 - want);
+        ForgivenStreet x = Streets.told();
+        C.due("fault of " + text, Streets.enact(x, text), want < 0 ? 1 : -100 - want);
         C.due("the model's fault of " + text, Model.fault(text), want);
     }
 
@@ -202,15 +182,15 @@ public final class LawTests {
         int[] names = {7, 30, 4, 2, 5, 1};
         for (int length = 1; length <= 5; length++) {
             int many = (int) Math.round(Math.pow(signs.length(), length));
-            ForgivenStreet x = told();
+            ForgivenStreet x = Streets.told();
             for (int k = 0; k < many; k++) {
                 // an object is good for 512 calls
-                if (k % 60 == 0) x = told();
+                if (k % 60 == 0) x = Streets.told();
                 StringBuilder sb = new StringBuilder();
                 for (int i = 0, r = k; i < length; i++, r /= signs.length()) sb.append(signs.charAt(r % signs.length()));
                 String text = sb.toString();
                 int fault = Model.fault(text);
-                C.due("law " + text, enact(x, text), fault < 0 ? 1 : -100 - fault);
+                C.due("law " + text, Streets.enact(x, text), fault < 0 ? 1 : -100 - fault);
                 if (fault >= 0 || text.indexOf('?') >= 0 || text.indexOf(';') >= 0) continue;
                 C.due(text, x.counts(0, 2), Math.max(0, Math.min(9, Model.value(text, names))));
             }

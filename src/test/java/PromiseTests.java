@@ -35,34 +35,6 @@ public final class PromiseTests {
         C.end("PromiseTests");
     }
 
-    private static void feedAll(ForgivenStreet x, String text) {
-        for (int i = 0; i < text.length(); i++) x.feed(text.charAt(i));
-    }
-
-    private static int enact(ForgivenStreet x, String text) {
-        feedAll(x, text);
-        return x.law();
-    }
-
-    private static void fill(ForgivenStreet x, int shelf, int sort, int... values) {
-        x.row(shelf, sort, values.length);
-        for (int i = 0; i < values.length; i++) x.put(shelf, i, values[i]);
-    }
-
-    private static void numbers(ForgivenStreet x, int... values) {
-        for (int h = 0; h < values.length; h++) x.mend(h, 0, values[h]);
-    }
-
-    /** People 0, 1, 2 in houses 0, 1, 2; each wrong counts by its weight. */
-    private static ForgivenStreet weighing() {
-        ForgivenStreet x = new ForgivenStreet();
-        x.person(0);
-        x.person(1);
-        x.person(2);
-        C.due("law w", enact(x, "w"), 1);
-        return x;
-    }
-
     private static void p1() {
         C.part("promise 1");
         ForgivenStreet x = new ForgivenStreet();
@@ -125,7 +97,7 @@ public final class PromiseTests {
             C.due("shelf, whatever the place", x.wrongs(6, place, 1), BAD);
             C.due("n, whatever the place", x.wrongs(0, place, 13), BAD);
         }
-        fill(x, 0, 1, 0, 1, 5);
+        Streets.fill(x, 0, 1, 0, 1, 5);
         C.due("shorts", x.wrongs(0, 0, 1), -12);
         C.due("shorts, whatever the place", x.wrongs(0, -1, 1), -12);
         C.due("shorts, least place", x.wrongs(0, MIN, 1), -12);
@@ -134,7 +106,7 @@ public final class PromiseTests {
         x.keep(0, 0);
         C.due("door", x.wrongs(0, 0, 1), -12);
         C.due("door, whatever the place", x.wrongs(0, -1, 1), -12);
-        fill(x, 0, 0, 7, 0, 1, 5, 1, 0, 9, 0, 1);
+        Streets.fill(x, 0, 0, 7, 0, 1, 5, 1, 0, 9, 0, 1);
         C.due("ends within a three", x.wrongs(0, 1, 12), 2);
         C.due("weights", x.of(0, 3) * 10 + x.of(1, 3), 59);
         C.due("n of them", x.wrongs(0, 1, 1), 1);
@@ -144,22 +116,22 @@ public final class PromiseTests {
         C.due("far behind", x.wrongs(0, MAX, 12), 0);
         // from -2 and -3 on, a later three would lie within the row
         for (int place : new int[] {-1, -2, -3, -60, MIN, MIN + 1}) C.due("ahead of the row", x.wrongs(0, place, 12), 0);
-        fill(x, 1, 0);
+        Streets.fill(x, 1, 0);
         C.due("row of none", x.wrongs(1, 0, 1), 0);
         C.due("ahead of a row of none", x.wrongs(1, -1, 1), 0);
         C.due("none came", x.count(1), 3);
-        fill(x, 1, 0, 0, 1, 5, 0, 1, 10, 0, 1, 5);
+        Streets.fill(x, 1, 0, 0, 1, 5, 0, 1, 10, 0, 1, 5);
         C.due("weight not so", x.wrongs(1, 0, 3), 1);
-        fill(x, 1, 0, 0, 1, 5, 0, 0, 5);
+        Streets.fill(x, 1, 0, 0, 1, 5, 0, 0, 5);
         C.due("alike", x.wrongs(1, 0, 3), 1);
-        fill(x, 1, 0, 0, 1, 5, 0, 2, 5);
+        Streets.fill(x, 1, 0, 0, 1, 5, 0, 2, 5);
         C.due("nobody", x.wrongs(1, 0, 3), 1);
-        fill(x, 1, 0, 0, -1, 5);
+        Streets.fill(x, 1, 0, 0, -1, 5);
         C.due("below 0", x.wrongs(1, 0, 1), 0);
         C.due("count", x.count(1), 6);
         int[] many = new int[60];
         for (int i = 0; i < 60; i++) many[i] = i % 3 == 0 ? 0 : 1;
-        fill(x, 2, 0, many);
+        Streets.fill(x, 2, 0, many);
         C.due("until full", x.wrongs(2, 0, 12), 6);
         C.due("full", x.wrongs(2, 0, 12), 0);
         C.due("count", x.count(1), 12);
@@ -217,9 +189,9 @@ public final class PromiseTests {
         x.person(1);
         x.wrong(1, 3);
         C.due("by the law", x.counts(0, 5), 9);
-        C.due("fault", enact(x, "4+"), -102);
+        C.due("fault", Streets.enact(x, "4+"), -102);
         C.due("the former one stands", x.counts(0, 5), 9);
-        C.due("another", enact(x, "4"), 1);
+        C.due("another", Streets.enact(x, "4"), 1);
         C.due("by the other", x.counts(0, 5), 4);
     }
 
@@ -251,13 +223,13 @@ public final class PromiseTests {
 
     private static void p10and11() {
         C.part("promises 10, 11");
-        ForgivenStreet x = weighing();
+        ForgivenStreet x = Streets.weighing();
         x.wrong(1, 2);
         x.wrong(10, 3);
         x.wrong(12, 2);
         C.due("later -11", x.later(0, 0, 0), -11);
         C.due("street -11", x.street(0, 0, 0), -11);
-        fill(x, 0, 2, 0);
+        Streets.fill(x, 0, 2, 0);
         C.due("later -12", x.later(0, 0, 0), -12);
         C.due("street -12", x.street(0, 0, 0), -12);
         x.body(0);
@@ -276,7 +248,7 @@ public final class PromiseTests {
             C.due("street what", x.street(0, 0, bad), BAD);
         }
         C.due("street what", x.street(0, 0, 4), BAD);
-        fill(x, 0, 1, 5, 5, 29, 23, 36, 0);
+        Streets.fill(x, 0, 1, 5, 5, 29, 23, 36, 0);
         int[] five = {0, 2, 2, 4, 4, 4, 4};
         for (int n = 0; n < 7; n++) C.due("later", x.later(0, n, 5), five[n]);
         C.due("later", x.later(0, 4, 11), 3);
@@ -288,18 +260,18 @@ public final class PromiseTests {
         C.due("for nothing", x.street(0, 2, 2), 1);
         C.due("for nothing", x.street(0, 40, 2), 1);
         C.due("alike", x.street(0, 4, 3), NOT);
-        fill(x, 0, 1, 5, 26, -1, 19);
+        Streets.fill(x, 0, 1, 5, 26, -1, 19);
         C.due("alike", x.street(0, 40, 3), 12 * 2 + 5);
         C.due("alike ahead", x.street(0, 1, 3), NOT);
         C.due("it ends below 0", x.later(0, 40, 7), 0);
         int[] forty = new int[41];
         for (int i = 0; i < 40; i++) forty[i] = 0;
         forty[40] = 12;
-        fill(x, 1, 1, forty);
+        Streets.fill(x, 1, 1, forty);
         C.due("40 at most", x.street(1, 40, 0), 1);
         C.due("nothing in deed", x.of(5, 0) + x.of(0, 5), 0);
         x.mend(11, 0, 998);
-        fill(x, 0, 1, 23);
+        Streets.fill(x, 0, 1, 23);
         C.due("999 at most", x.later(0, 1, 11), 999);
         C.due("999 at most", x.street(0, 1, 1), 999);
     }
@@ -308,28 +280,28 @@ public final class PromiseTests {
         C.part("promise 12");
         ForgivenStreet x = new ForgivenStreet();
         for (int bad : new int[] {-1, 2, MIN, MAX}) C.due("run", x.run(bad), BAD);
-        numbers(x, 5, 1, 5, 2, 3, 3, 9, 4, 0, 0, 0, 5);
+        Streets.numbers(x, 5, 1, 5, 2, 3, 3, 9, 4, 0, 0, 0, 5);
         C.due("many", x.run(0), 5);
         C.due("which", x.run(1), 1 << 1 | 1 << 3 | 1 << 4 | 1 << 7 | 1 << 11);
-        numbers(x, 9, 8, 7, 6, 5, 4, 3, 2, 1, 0, 0, 0);
+        Streets.numbers(x, 9, 8, 7, 6, 5, 4, 3, 2, 1, 0, 0, 0);
         C.due("one", x.run(0), 1);
         C.due("the least", x.run(1), 1);
-        numbers(x, 0, 1, 2, 3, 4, 5, 6, 7, 8, 9, 10, 11);
+        Streets.numbers(x, 0, 1, 2, 3, 4, 5, 6, 7, 8, 9, 10, 11);
         C.due("all", x.run(0), 12);
         C.due("all", x.run(1), 4095);
-        numbers(x, 3, 4, 1, 2, 0, 0, 0, 0, 0, 0, 0, 0);
+        Streets.numbers(x, 3, 4, 1, 2, 0, 0, 0, 0, 0, 0, 0, 0);
         C.due("of like ones the least", x.run(1), 3);
-        numbers(x, 5, 5, 6, 6, 0, 0, 0, 0, 0, 0, 0, 0);
+        Streets.numbers(x, 5, 5, 6, 6, 0, 0, 0, 0, 0, 0, 0, 0);
         C.due("of like ones the least", x.run(1), 5);
     }
 
     private static void p13() {
         C.part("promise 13");
-        ForgivenStreet x = weighing();
+        ForgivenStreet x = Streets.weighing();
         for (int bad : new int[] {-2, -3, MIN}) C.due("k", x.fewest(bad), BAD);
         C.due("in order", x.fewest(-1), 0);
         C.due("none", x.fewest(0), NOT);
-        numbers(x, 1, 1, 3, 2, 5, 5, 5, 5, 5, 5, 5, 5);
+        Streets.numbers(x, 1, 1, 3, 2, 5, 5, 5, 5, 5, 5, 5, 5);
         C.due("no wrongs", x.fewest(-1), NOT);
         x.wrong(1, 4);
         C.due("too much", x.fewest(-1), NOT);
@@ -343,16 +315,16 @@ public final class PromiseTests {
         x.mend(1, 5, 1);
         C.due("forgiven ones are none", x.fewest(0), 24 + 3);
         x.mend(1, 5, 0);
-        numbers(x, 1, 1, 3, 2, 5, 4, 5, 5, 5, 5, 5, 5);
+        Streets.numbers(x, 1, 1, 3, 2, 5, 4, 5, 5, 5, 5, 5, 5);
         C.due("two", x.fewest(-1), 2);
         C.due("first", x.fewest(0), 12 + 5);
         C.due("second", x.fewest(1), 24 + 3);
         C.due("no third", x.fewest(2), NOT);
-        numbers(x, 1, 1, 4, 1, 4, 4, 5, 5, 5, 5, 5, 5);
+        Streets.numbers(x, 1, 1, 4, 1, 4, 4, 5, 5, 5, 5, 5, 5);
         C.due("two in one house", x.fewest(-1), 2);
         C.due("first", x.fewest(0), 12 + 3);
         C.due("second", x.fewest(1), 24 + 3);
-        numbers(x, 1, 2, 1, 2, 1, 2, 1, 2, 2, 2, 2, 2);
+        Streets.numbers(x, 1, 2, 1, 2, 1, 2, 1, 2, 2, 2, 2, 2);
         C.due("three", x.fewest(-1), NOT);
         C.due("three", x.fewest(1), NOT);
         C.due("in thought", x.of(1, 5) + x.of(3, 0), 2);
@@ -360,7 +332,7 @@ public final class PromiseTests {
 
     private static void p14() {
         C.part("promise 14");
-        ForgivenStreet x = weighing();
+        ForgivenStreet x = Streets.weighing();
         for (int bad : new int[] {-1, 12, MIN, MAX}) C.due("house", x.all(bad), BAD);
         x.mend(3, 0, 5);
         C.due("no wrongs", x.all(3), 5);
@@ -370,9 +342,9 @@ public final class PromiseTests {
         x.mend(1, 5, 1);
         C.due("all not forgiven", x.all(3), 16);
         C.due("elsewhere", x.all(0), 11);
-        enact(x, "n<7?w");
+        Streets.enact(x, "n<7?w");
         C.due("by numbers, one behind the other", x.all(3), 7);
-        enact(x, "w");
+        Streets.enact(x, "w");
         x.mend(3, 0, 997);
         C.due("999 at most", x.all(3), 999);
         C.due("in thought", x.of(3, 0), 997);
@@ -380,7 +352,7 @@ public final class PromiseTests {
 
     private static void p15() {
         C.part("promise 15");
-        ForgivenStreet x = weighing();
+        ForgivenStreet x = Streets.weighing();
         for (int bad : new int[] {-1, 2, MIN, MAX}) C.due("what", x.evening(bad), BAD);
         C.due("none", x.evening(0), 0);
         C.due("none", x.evening(1), 0);
@@ -401,7 +373,7 @@ public final class PromiseTests {
         x.mend(2, 1, 0);
         C.due("no two in one house", x.evening(0), 12);
         C.due("no two in one house", x.evening(1), 5);
-        enact(x, "o*n");
+        Streets.enact(x, "o*n");
         x.mend(0, 0, 5);
         C.due("by NUMBERS as they are", x.evening(0), 5);
         C.due("by NUMBERS as they are", x.evening(1), 2);
@@ -410,10 +382,10 @@ public final class PromiseTests {
         y.wrong(1, 2);
         y.wrong(32, 2);
         y.wrong(2, 4);
-        enact(y, "w");
+        Streets.enact(y, "w");
         C.due("like", y.evening(0), 4);
         C.due("fewest", y.evening(1), 4);
-        enact(y, "0");
+        Streets.enact(y, "0");
         C.due("nothing counts", y.evening(1), 0);
     }
 
@@ -448,7 +420,7 @@ public final class PromiseTests {
         C.part("promises 18, 19, 20");
         ForgivenStreet x = new ForgivenStreet();
         C.due("nobody", x.chosen(0), BAD);
-        numbers(x, 50, 10, 30, 30, 7, 999, 54, 58, 8, 8, 0, 20);
+        Streets.numbers(x, 50, 10, 30, 30, 7, 999, 54, 58, 8, 8, 0, 20);
         for (int bad : new int[] {-1, 12, MIN, MAX}) C.due("post house", x.post(bad, 0), BAD);
         for (int bad : new int[] {-1, 1000, MIN, MAX}) {
             C.due("post v", x.post(0, bad), BAD);
@@ -482,38 +454,38 @@ public final class PromiseTests {
 
     private static void p21() {
         C.part("promise 21");
-        ForgivenStreet x = weighing();
+        ForgivenStreet x = Streets.weighing();
         x.wrong(1, 2);
         x.wrong(12, 3);
         for (int bad : new int[] {-1, -10, 6, 9, 60, 56, 65, 100, MIN, MAX}) C.due("shelves", x.judge(bad, 0), BAD);
         for (int bad : new int[] {-1, 12, MIN, MAX}) C.due("house", x.judge(1, bad), BAD);
         C.due("calls -11", x.judge(1, 0), -11);
-        fill(x, 0, 0, 0);
+        Streets.fill(x, 0, 0, 0);
         C.due("calls first", x.judge(1, 0), -12);
-        fill(x, 0, 1, 4, 4, 16);
+        Streets.fill(x, 0, 1, 4, 4, 16);
         C.due("painted -11", x.judge(1, 0), -11);
-        fill(x, 1, 2, 0);
+        Streets.fill(x, 1, 2, 0);
         C.due("painted -12", x.judge(1, 0), -12);
         x.body(0);
         x.keep(1, 0);
         C.due("painted a door", x.judge(1, 0), -12);
         x.row(1, 1, 0);
         C.due("nothing painted", x.judge(1, 4), NOT);
-        fill(x, 1, 1, 0, 2, 2, 5);
+        Streets.fill(x, 1, 1, 0, 2, 2, 5);
         C.due("all so", x.judge(1, 4), NOT);
         C.due("another house", x.judge(1, 3), 1);
-        fill(x, 1, 1, 1, 2, 2, 5);
+        Streets.fill(x, 1, 1, 1, 2, 2, 5);
         C.due("the first", x.judge(1, 4), 0);
-        fill(x, 1, 1, 0, 2, 2, 6);
+        Streets.fill(x, 1, 1, 0, 2, 2, 6);
         C.due("the last", x.judge(1, 4), 3);
-        fill(x, 1, 1, 0, 2);
+        Streets.fill(x, 1, 1, 0, 2);
         C.due("fewer", x.judge(1, 4), NOT);
-        fill(x, 1, 1, 0, 2, 2, 5, 5);
+        Streets.fill(x, 1, 1, 0, 2, 2, 5, 5);
         C.due("more than that", x.judge(1, 4), 4);
-        fill(x, 0, 1, 4, 24);
-        fill(x, 1, 1, 0, 2, 2);
+        Streets.fill(x, 0, 1, 4, 24);
+        Streets.fill(x, 1, 1, 0, 2, 2);
         C.due("more than CALLS that are there", x.judge(1, 4), 2);
-        fill(x, 5, 1, 0);
+        Streets.fill(x, 5, 1, 0);
         C.due("one row for both", x.judge(55, 0), NOT);
         x.row(0, 1, 50);
         x.row(1, 1, 60);
@@ -522,12 +494,12 @@ public final class PromiseTests {
 
     private static void p22() {
         C.part("promise 22");
-        ForgivenStreet x = weighing();
+        ForgivenStreet x = Streets.weighing();
         x.wrong(1, 2);
         C.due("nothing there", x.fits(1, 0, 0, 0), -11);
-        fill(x, 0, 1, 5);
+        Streets.fill(x, 0, 1, 5);
         C.due("painted -11", x.fits(1, 0, 0, 2), -11);
-        fill(x, 1, 0, 5);
+        Streets.fill(x, 1, 0, 5);
         C.due("painted -12", x.fits(1, 0, 0, 2), -12);
         C.due("calls -12 first", x.fits(12, 0, 0, 2), -12);
         for (int bad : new int[] {-1, 6, 60, 100, MIN, MAX}) C.due("shelves", x.fits(bad, 0, 0, 0), BAD);
@@ -535,12 +507,12 @@ public final class PromiseTests {
         for (int bad : new int[] {-1, 4, MIN, MAX}) C.due("what", x.fits(1, 0, 0, bad), BAD);
         for (int bad : new int[] {-1, 3, MIN, MAX}) C.due("one", x.fits(1, 0, bad, 0), BAD);
         for (int bad : new int[] {-1, 1, MIN, MAX}) C.due("wrong", x.fits(1, 0, bad, 3), BAD);
-        fill(x, 1, 1, 0, 7);
+        Streets.fill(x, 1, 1, 0, 7);
         C.due("weights", x.fits(1, 5, 0, 2), 1);
         C.due("the least", x.fits(1, 5, 0, 3), 7);
         C.due("no heart", x.fits(1, 5, 1, 0), 0);
         C.due("no heart", x.fits(1, 5, 1, 1), NOT);
-        fill(x, 1, 1, 0, 10);
+        Streets.fill(x, 1, 1, 0, 10);
         C.due("no weight", x.fits(1, 5, 0, 2), 0);
         C.due("no weight", x.fits(1, 5, 0, 3), NOT);
         x.row(1, 1, 0);
@@ -548,11 +520,11 @@ public final class PromiseTests {
         C.due("the least", x.fits(1, 5, 0, 3), 1);
         C.due("all hearts", x.fits(1, 5, 1, 0), 13);
         C.due("the least", x.fits(1, 5, 1, 1), 0);
-        enact(x, "h/3");
-        fill(x, 1, 1, 0, 2);
+        Streets.enact(x, "h/3");
+        Streets.fill(x, 1, 1, 0, 2);
         C.due("hearts 6, 7, 8", x.fits(1, 5, 1, 0), 3);
         C.due("the least", x.fits(1, 5, 1, 1), 6);
-        fill(x, 1, 1, 0, 4);
+        Streets.fill(x, 1, 1, 0, 4);
         C.due("heart 12", x.fits(1, 5, 1, 1), 12);
         C.due("heart as before", x.of(1, 2), 6);
         C.due("weight as before", x.of(0, 3), 2);
@@ -561,7 +533,7 @@ public final class PromiseTests {
 
     private static void p23() {
         C.part("promise 23");
-        ForgivenStreet x = weighing();
+        ForgivenStreet x = Streets.weighing();
         x.wrong(10, 2);
         x.wrong(20, 3);
         x.wrong(1, 5);
@@ -575,16 +547,16 @@ public final class PromiseTests {
         C.due("of like ones the least", x.byTurns(1, 3, 1), 0);
         C.due("one wrong, two turns: nothing first", x.byTurns(10, 3, 1), 12);
         C.due("one wrong, one turn", x.byTurns(10, 1, 1), 2);
-        enact(x, "n=0?w-2;w*3");
+        Streets.enact(x, "n=0?w-2;w*3");
         C.due("0 does not count", x.byTurns(1, 3, 0), 1 - 3 + 6 - 0);
-        enact(x, "n=0&w=2?1;n=0&w=3?2;n=1?9;n=2?3");
+        Streets.enact(x, "n=0&w=2?1;n=0&w=3?2;n=1?9;n=2?3");
         C.due("the order counts", x.byTurns(1, 3, 0), 10);
         C.due("the lighter one first", x.byTurns(1, 3, 1), 0);
-        enact(x, "n=0&w=2?2;n=0&w=3?1;n=1?9;n=2?3");
+        Streets.enact(x, "n=0&w=2?2;n=0&w=3?1;n=1?9;n=2?3");
         C.due("the heavier one first", x.byTurns(1, 3, 1), 1);
         x.mend(0, 5, 1);
         C.due("forgiven ones are none", x.byTurns(1, 3, 0), 1);
-        enact(x, "w");
+        Streets.enact(x, "w");
         C.due("forgiven ones are none", x.byTurns(1, 4, 0), -2);
         C.due("forgiven ones are none", x.byTurns(1, 1, 1), 1);
         C.due("nothing first", x.byTurns(1, 3, 1), 12);
@@ -602,7 +574,7 @@ public final class PromiseTests {
 
     private static void p24() {
         C.part("promise 24");
-        ForgivenStreet x = weighing();
+        ForgivenStreet x = Streets.weighing();
         x.mend(4, 0, 3);
         for (int bad : new int[] {0, 1, 99, 100, 141, 199, 3100, 3101, -101, MIN, MAX}) C.due("nm " + bad, x.drawn(1, bad, 0), BAD);
         for (int bad : new int[] {-2, 12, MIN, MAX}) C.due("house", x.drawn(1, 101, bad), BAD);
@@ -614,7 +586,7 @@ public final class PromiseTests {
         C.due("each year is from now", x.drawn(77, 201, -1), 16);
         C.due("the second day it is done again", x.drawn(77, 102, -1), 8);
         C.due("the third it is forgiven again", x.drawn(77, 103, -1), 13);
-        enact(x, "a");
+        Streets.enact(x, "a");
         x.mend(0, 6, 95);
         C.due("TODAY stays 99: 95 - 0, 96 again, none at 97 - 96", x.drawn(77, 103, -1), 3 + 9 + 1);
         C.due("in thought", x.of(0, 6), 95);
@@ -622,7 +594,7 @@ public final class PromiseTests {
 
     private static void p25to29() {
         C.part("promises 25 to 29");
-        ForgivenStreet x = weighing();
+        ForgivenStreet x = Streets.weighing();
         x.wrong(1, 4);
         x.wrong(12, 9);
         for (int bad : new int[] {-1, 2, MIN, MAX}) {
@@ -649,7 +621,7 @@ public final class PromiseTests {
         C.due("DAY", x.of(1, 4), 99);
         C.due("not FORGIVEN", x.of(1, 5), 0);
         C.due("again", x.again(1), STATE);
-        enact(x, "0");
+        Streets.enact(x, "0");
         C.due("counts 0", x.call(1, 7), 0);
         C.due("not FORGIVEN", x.of(1, 5), 0);
         C.due("slam", x.slam(7), 998);
@@ -660,7 +632,7 @@ public final class PromiseTests {
 
     private static void p30and31() {
         C.part("promises 30, 31");
-        ForgivenStreet x = weighing();
+        ForgivenStreet x = Streets.weighing();
         C.due("none", x.back(), STATE);
         x.wrong(1, 4);
         x.wrong(12, 5);
@@ -699,7 +671,7 @@ public final class PromiseTests {
 
     private static void p32and33() {
         C.part("promises 32, 33");
-        ForgivenStreet x = weighing();
+        ForgivenStreet x = Streets.weighing();
         C.due("none", x.undo(), STATE);
         C.due("none", x.redo(), STATE);
         x.wrong(1, 4);
@@ -745,13 +717,13 @@ public final class PromiseTests {
     /** The oldest of unlike changes are dropped whole. */
     private static void dropped() {
         C.part("promises 32, 33, dropped");
-        ForgivenStreet x = weighing();
+        ForgivenStreet x = Streets.weighing();
         for (int i = 0; i < 45; i++) {
             int what = i % 3;
             x.mend(what == 0 ? i % 12 : i % 3, what, 1 + i % 11);
         }
         C.due("45 told, 40 kept", x.count(3), 40);
-        ForgivenStreet y = weighing();
+        ForgivenStreet y = Streets.weighing();
         for (int i = 0; i < 5; i++) {
             int what = i % 3;
             y.mend(what == 0 ? i % 12 : i % 3, what, 1 + i % 11);
@@ -865,12 +837,12 @@ public final class PromiseTests {
         C.due("-11 of the first", x.shift(0, 0, 1, 0, 0), -11);
         C.due("-11 of the other", x.shift(1, 0, 0, 0, 0), -11);
         C.due("no rows", x.shift(1, 0, 1, 0, 0), -12);
-        fill(x, 0, 1, 1, 2, 3, 4, 5, 6);
+        Streets.fill(x, 0, 1, 1, 2, 3, 4, 5, 6);
         C.due("a door", x.shift(0, 0, 1, 0, 0), -12);
         C.due("a door", x.shift(1, 0, 0, 0, 0), -12);
-        fill(x, 1, 2, 7, 8);
+        Streets.fill(x, 1, 2, 7, 8);
         C.due("unlike sorts", x.shift(0, 9, 1, 0, 1), -12);
-        fill(x, 1, 1, 7, 8);
+        Streets.fill(x, 1, 1, 7, 8);
         C.due("n", x.shift(0, 4, 1, 0, 2), 2);
         C.due("came", x.element(1, 0) * 10 + x.element(1, 1), 56);
         int[][] bad = {{-1, 0, 1}, {0, -1, 1}, {0, 0, 3}, {6, 0, 1}, {0, 2, 1}, {5, 0, 2}, {0, 1, 2}, {7, 0, 0}, {0, 3, 0},
@@ -904,11 +876,11 @@ public final class PromiseTests {
 
     private static void p43() {
         C.part("promise 43");
-        ForgivenStreet x = weighing();
+        ForgivenStreet x = Streets.weighing();
         for (int bad : new int[] {-1, 6, MIN, MAX}) C.due("what", x.count(bad), BAD);
         x.wrong(1, 1);
         x.wrong(1, 1);
-        feedAll(x, "abcd");
+        Streets.feedAll(x, "abcd");
         for (int i = 1; i <= 6; i++) x.mend(0, 0, i);
         x.undo();
         for (int i = 0; i < 6; i++) x.body(7);
