@@ -489,8 +489,8 @@ public final class ForgivenStreet {
         int to = folk.to[w];
         int ago = Math.max(0, scene.today - scene.days[w]);
         int own = folk.houses[to] == house ? 1 : 0;
-        int seers = folk.seers(w, house);
-        return laws.worth(folk.weights[w], ago, folk.hearts[to], seers, scene.numbers[house], own);
+        laws.tell(folk.weights[w], ago, folk.hearts[to], folk.seers(w, house), scene.numbers[house], own);
+        return laws.worth();
     }
 
     /** A CALL in a scene: how much it counted. */
@@ -946,23 +946,23 @@ public final class ForgivenStreet {
             }
         }
 
-        /** How much it counts, the NAMES being told in their order. */
-        int worth(int weight, int ago, int heart, int seers, int number, int own) {
-            if (size == 0) return held(1 + weight / 3 + own - ago / 20);
+        /** What the NAMES stand for, in their order. */
+        void tell(int weight, int ago, int heart, int seers, int number, int own) {
             names[0] = weight;
             names[1] = ago;
             names[2] = heart;
             names[3] = seers;
             names[4] = number;
             names[5] = own;
-            return workOut();
         }
 
         private static int held(int v) {
             return v < 0 ? 0 : v > 9 ? 9 : v;
         }
 
-        private int workOut() {
+        /** How much it counts, the NAMES being told. */
+        int worth() {
+            if (size == 0) return held(1 + names[0] / 3 + names[5] - names[1] / 20);
             int top = 0;
             boolean skips = false;
             for (int i = 0; i < size; i++) {

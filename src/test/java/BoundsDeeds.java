@@ -16,6 +16,7 @@ public final class BoundsDeeds {
         undo();
         redo();
         fortyChanges();
+        changesOfAllSorts();
         deedsAreNoChanges();
         C.named(25, 26, 27, 28, 29, 30, 31, 32, 33);
         C.end("BoundsDeeds");
@@ -180,6 +181,20 @@ public final class BoundsDeeds {
             x.days(99);
             x.days(1);
             C.due("days", x.led(4), 199);
+        });
+        C.test("promise 29: the last of 512 calls tells what 511 deeds came to", () -> {
+            ForgivenStreet x = new ForgivenStreet();
+            for (int i = 0; i < 511; i++) x.days(99);
+            C.due("days", x.led(4), 511 * 99);
+            ForgivenStreet y = new ForgivenStreet();
+            for (int i = 0; i < 511; i++) y.slam(11);
+            C.due("slammed", y.led(5), 511);
+            ForgivenStreet z = Streets.wronged(1, 9);
+            for (int i = 0; i < 253; i++) {
+                z.call(0, 3);
+                z.again(0);
+            }
+            C.due("how much", z.led(2), 253 * 9);
         });
         C.test("promise 29: refused deeds are not led", () -> {
             ForgivenStreet x = Streets.wronged(1, 4);
@@ -481,6 +496,41 @@ public final class BoundsDeeds {
             C.due("HOUSE stays", x.of(2, 1), 9);
             C.due("HEART", x.of(0, 2), 6);
         });
+    }
+
+    /** Changes of all sorts, told one behind the other: {number, what, what it was, what it becomes}. */
+    private static int[][] mixed(ForgivenStreet x, int many) {
+        int[] most = {999, 11, 12, 9, 99, 1, 99};
+        int[][] told = new int[many][];
+        for (int i = 0; i < many; i++) {
+            int what = i * 5 % 7;
+            int number = what == 6 ? 0 : i % 3;
+            int was = x.of(number, what);
+            int v = what == 5 ? 1 - was : (was + 1 + i % 3) % most[what] + (what == 3 ? 1 : 0);
+            if (v == was) v = most[what];
+            C.due("mend " + i, x.mend(number, what, v), was);
+            told[i] = new int[] {number, what, was, v};
+        }
+        return told;
+    }
+
+    private static void changesOfAllSorts() {
+        for (int many : new int[] {40, 41, 45, 79, 80, 81}) {
+            C.test("promises 32 and 33: of " + many + " changes of all sorts the latest 40, each undone and done again", () -> {
+                ForgivenStreet x = Streets.wronged(3, 4);
+                int[][] told = mixed(x, many);
+                for (int i = many - 1; i >= many - 40; i--) {
+                    C.due("undo", x.undo(), i - (many - 40));
+                    C.due("change " + i + " undone", x.of(told[i][0], told[i][1]), told[i][2]);
+                }
+                C.due("no more", x.undo(), STATE);
+                for (int i = many - 40; i < many; i++) {
+                    C.due("redo", x.redo(), many - 1 - i);
+                    C.due("change " + i + " done again", x.of(told[i][0], told[i][1]), told[i][3]);
+                }
+                C.due("no more", x.redo(), STATE);
+            });
+        }
     }
 
     private static void deedsAreNoChanges() {

@@ -26,6 +26,13 @@ public final class BoundsFolk {
     }
 
     private static void newObject() {
+        C.test("promise 1: the constants", () -> {
+            C.due("BAD", ForgivenStreet.BAD, -1);
+            C.due("NOT", ForgivenStreet.NOT, -2);
+            C.due("FULL", ForgivenStreet.FULL, -3);
+            C.due("STATE", ForgivenStreet.STATE, -5);
+            C.due("VOID", ForgivenStreet.VOID, -2000000000);
+        });
         C.test("promise 1: twelve houses, each with NUMBER 0, no thirteenth", () -> {
             ForgivenStreet x = new ForgivenStreet();
             for (int h = 0; h < 12; h++) C.due("of(" + h + ", 0)", x.of(h, 0), 0);
@@ -175,9 +182,12 @@ public final class BoundsFolk {
         });
         C.test("promise 4: the last three of a row of sixty", () -> {
             int[] sixty = new int[60];
+            sixty[57] = 2;
             sixty[58] = 1;
             sixty[59] = 8;
             ForgivenStreet x = withBytes(sixty);
+            C.due("from 59 on", x.wrongs(0, 59, 12), 0);
+            C.due("from 58 on", x.wrongs(0, 58, 12), 0);
             C.due("from 57 on", x.wrongs(0, 57, 12), 1);
             C.due("WEIGHT", x.of(0, 3), 8);
         });

@@ -17,6 +17,7 @@ public final class BoundsLaw {
         wraps();
         divides();
         truths();
+        givesZero();
         held();
         names();
         C.named(7, 8, 9);
@@ -81,6 +82,13 @@ public final class BoundsLaw {
 
     private static void textOf120() {
         C.test("promise 8: a TEXT of 120 bytes, the last one counts", () -> counts("00" + repeated("+0", 58) + "+7", 7));
+        C.test("promise 8: a TEXT of 120 bytes with no ( ), one law behind the other", () -> {
+            ForgivenStreet x = Streets.told();
+            for (int due = 1; due < 6; due++) {
+                C.due("law", Streets.enact(x, "-0" + repeated("+0", 58) + "+" + due), 1);
+                C.due("the last one counts", x.counts(0, 2), due);
+            }
+        });
         C.test("promise 8: sixty LINES in 120 bytes", () -> {
             counts("00?8;" + repeated("0?9;", 28) + "6-1", 5);
             fault(repeated("8;", 60), 120);
@@ -142,6 +150,10 @@ public final class BoundsLaw {
             fault("?w", 0);
             fault("w?", 2);
             fault("w?;w", 2);
+        });
+        C.test("promise 8, LINE: both are E, from | on", () -> {
+            counts("0|4?0|4;9", 1);
+            counts("0?9;0|4", 1);
         });
         C.test("promise 8, LINE: two E at most", () -> {
             fault("w?w?w", 3);
@@ -331,6 +343,13 @@ public final class BoundsLaw {
             counts("0?((((((8))))));------8", 8);
             counts("!!!!!!0?((((((8))))));((((((7))))))", 7);
         });
+        C.test("promise 8: the seventh in the second E and in the second LINE is a FAULT", () -> {
+            fault("1?(((((((8", 8);
+            fault("1?-------8", 8);
+            fault("1?!!!!!!!8", 8);
+            fault("1;(((((((8", 8);
+            fault("1;1?-------8", 10);
+        });
         C.test("promise 8: a seventh behind closed ones is a FAULT", () -> {
             fault("((((((1))))))+(((((((2", 20);
             fault("(1)+(((((((", 10);
@@ -434,6 +453,15 @@ public final class BoundsLaw {
             counts("-5&-7", 1);
             counts("4&2", 1);
             counts("5&0", 0);
+        });
+    }
+
+    private static void givesZero() {
+        C.test("promise 8: what is not so gives 0, neither more nor less", () -> {
+            for (String e : new String[] {"0|0", "5&0", "0&5", "0&0", "2<1", "2<2", "1=2", "2=1", "1>2", "2>2", "!5", "!-5", "7/0", "7%0"}) counts("(" + e + ")=0", 1);
+        });
+        C.test("promise 8: what is so gives 1, neither more nor less", () -> {
+            for (String e : new String[] {"5|0", "0|5", "5|5", "5&7", "1<2", "2=2", "2>1", "!0"}) counts("(" + e + ")=1", 1);
         });
     }
 

@@ -132,6 +132,16 @@ public final class BoundsPainting {
         return x;
     }
 
+    /** Painted so: 0, 2 and then 6, which WRONG 1 would make it with WEIGHT 4. */
+    private static ForgivenStreet paintedOn(int calls, int paint) {
+        ForgivenStreet x = Streets.weighing();
+        x.wrong(1, 2);
+        x.wrong(12, 3);
+        Streets.fill(x, calls, 1, 4, 16);
+        Streets.fill(x, paint, 1, 0, 2, 6);
+        return x;
+    }
+
     private static void paintedRefused() {
         for (int s = 0; s < 6; s++) {
             int shelf = s;
@@ -213,6 +223,14 @@ public final class BoundsPainting {
             ForgivenStreet x = painted(0, 0, 0);
             C.due("11", x.judge(1, 11), NOT);
             C.due("4", x.judge(1, 4), 1);
+        });
+        C.test("promise 21: CALLS and what is painted on each two SHELVES", () -> {
+            for (int calls = 0; calls < 6; calls++) {
+                for (int paint = 0; paint < 6; paint++) {
+                    if (paint == calls) continue;
+                    C.due("SHELVES " + calls + ", " + paint, paintedOn(calls, paint).judge(10 * calls + paint, 4), 2);
+                }
+            }
         });
         C.test("promise 21: one row may be both", () -> {
             ForgivenStreet x = painted();
@@ -303,6 +321,17 @@ public final class BoundsPainting {
             C.due("the least", x.fits(1, 11, 11, 3), 8);
             C.due("of another: none", x.fits(1, 11, 10, 2), 0);
         });
+        C.test("promise 22: CALLS and what is painted on each two SHELVES", () -> {
+            for (int calls = 0; calls < 6; calls++) {
+                for (int paint = 0; paint < 6; paint++) {
+                    if (paint == calls) continue;
+                    ForgivenStreet x = paintedOn(calls, paint);
+                    C.due("SHELVES " + calls + ", " + paint, x.fits(10 * calls + paint, 4, 1, 2), 1);
+                    C.due("the least", x.fits(10 * calls + paint, 4, 1, 3), 4);
+                    C.due("HEARTS", x.fits(10 * calls + paint, 4, 1, 0), 0);
+                }
+            }
+        });
         C.test("promise 22: of one FORGIVEN already all fit", () -> {
             ForgivenStreet x = painted(0, 0, 3);
             x.mend(0, 5, 1);
@@ -361,8 +390,10 @@ public final class BoundsPainting {
         C.test("promise 23: no WRONGS done to either: NUMBERS as they are, nothing first", () -> {
             ForgivenStreet x = turning(new int[0]);
             x.mend(0, 0, 999);
-            C.due("999", x.byTurns(1, 4, 0), 999);
-            C.due("-999", x.byTurns(10, 4, 0), -999);
+            for (int n = 1; n <= 4; n++) {
+                C.due("999", x.byTurns(1, n, 0), 999);
+                C.due("-999", x.byTurns(10, n, 0), -999);
+            }
             C.due("nothing", x.byTurns(1, 4, 1), 12);
         });
         C.test("promise 23: WRONGS done by him and to others are not his", () -> {
@@ -381,6 +412,15 @@ public final class BoundsPainting {
             x.mend(1, 5, 1);
             C.due("none", x.byTurns(1, 2, 0), -7);
             C.due("nothing", x.byTurns(1, 2, 1), 12);
+        });
+        C.test("promise 23: FORGIVEN ones are none in the second turn, either", () -> {
+            ForgivenStreet x = turning(new int[] {9, 2, 3});
+            x.mend(0, 5, 1);
+            C.due("2 and 3", x.byTurns(1, 3, 0), 5);
+            C.due("first", x.byTurns(1, 3, 1), 1);
+            x.mend(2, 5, 1);
+            C.due("2 alone", x.byTurns(1, 3, 0), 2);
+            C.due("nothing first", x.byTurns(1, 3, 1), 12);
         });
         C.test("promise 23: NUMBER is 999 at most, of both", () -> {
             ForgivenStreet x = turning(new int[] {9, 9}, 9, 9);
@@ -438,6 +478,19 @@ public final class BoundsPainting {
             C.due("2 first", x.byTurns(1, 3, 1), 1);
             C.due("1 and 9", x.byTurns(1, 3, 0), 10);
             C.due("in one turn 1", x.byTurns(1, 2, 0), 1);
+        });
+        C.test("promise 23: the lesser by number second, though it counts first, too", () -> {
+            ForgivenStreet x = turning(new int[] {2, 9});
+            Streets.enact(x, "n=0&w=2?1;n=0?3;n=3&w=2?9;0");
+            C.due("3 and 9", x.byTurns(1, 3, 0), 12);
+            C.due("first", x.byTurns(1, 3, 1), 1);
+        });
+        C.test("promise 23: a WRONG that is not there is none, whatever the law", () -> {
+            ForgivenStreet x = turning(new int[] {9}, 9);
+            Streets.enact(x, "5");
+            C.due("5 and 5", x.byTurns(1, 4, 0), 0);
+            C.due("5", x.byTurns(1, 3, 0), 0);
+            C.due("5", x.byTurns(10, 1, 0), 5);
         });
         C.test("promise 23: n 2 and 4, what the other one does changes not what is first", () -> {
             ForgivenStreet x = turning(new int[] {2, 5}, 9, 9);

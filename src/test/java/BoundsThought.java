@@ -274,6 +274,11 @@ public final class BoundsThought {
         return x;
     }
 
+    private static ForgivenStreet lower(ForgivenStreet x, int house, int number) {
+        x.mend(house, 0, number);
+        return x;
+    }
+
     private static void found(String what, ForgivenStreet x, int... calls) {
         C.due(what + ": how many", x.fewest(-1), calls.length);
         for (int k = 0; k < calls.length; k++) C.due(what + ": call " + k, x.fewest(k), calls[k]);
@@ -336,6 +341,33 @@ public final class BoundsThought {
     }
 
     private static void fewestOrder() {
+        C.test("promise 13: in the second HOUSE and in the last", () -> {
+            ForgivenStreet x = Streets.wronged(2, 2);
+            for (int h = 0; h < 12; h++) x.mend(h, 0, h == 1 || h == 11 ? 3 : 5);
+            notFound("gap 2 down to the second, 5 behind it", lower(x, 1, 2));
+            found("both", lower(x, 1, 3), 1, 23);
+            found("the last alone", lower(x, 1, 5), 11);
+            x.mend(11, 0, 5);
+            found("the second alone", lower(x, 1, 3), 1);
+        });
+        C.test("promise 13: two calls of the last two of twelve WRONGS", () -> {
+            ForgivenStreet x = Streets.wronged(12, 2);
+            for (int w = 0; w < 10; w++) x.mend(w, 5, 1);
+            for (int h = 0; h < 12; h++) x.mend(h, 0, new int[] {1, 1, 5, 3, 6, 4, 9, 9, 9, 9, 9, 9}[h]);
+            found("10 and 11", x, 123, 137);
+            x.mend(11, 5, 1);
+            notFound("10 alone", x);
+        });
+        C.test("promise 13: twelve WRONGS, and none helps", () -> {
+            ForgivenStreet x = Streets.wronged(12, 1);
+            x.mend(0, 0, 999);
+            notFound("999 and 0", x);
+        });
+        C.test("promise 13: a WRONG that is not there is no call, whatever the law", () -> {
+            ForgivenStreet x = sorting(new int[] {1}, 5, 3);
+            Streets.enact(x, "1");
+            notFound("two of 1 wanted", x);
+        });
         C.test("promise 13: of like ones the first by numbers, one call", () -> found("WRONG 0", sorting(new int[] {3, 3, 3}, 5, 2), 3));
         C.test("promise 13: of like ones the first by numbers, two calls", () -> {
             found("WRONG 0 first", sorting(new int[] {2, 3, 2}, 5, 3, 6, 4), 3, 17);
@@ -408,6 +440,15 @@ public final class BoundsThought {
             x.mend(0, 5, 1);
             best("forgiven", x, 0, 0);
         });
+        C.test("promise 15: FORGIVEN ones are none, those behind are", () -> {
+            ForgivenStreet x = evenings(4, 1, 9, 23, 4);
+            best("both", x, 13, 3);
+            x.mend(0, 5, 1);
+            best("the second", x, 4, 2);
+            x.mend(0, 5, 0);
+            x.mend(1, 5, 1);
+            best("the first", x, 9, 1);
+        });
         C.test("promise 15: no two of one BY", () -> best("0 to 1, 0 to 2", evenings(3, 1, 3, 2, 4), 4, 2));
         C.test("promise 15: no two in one HOUSE, of one TO and of two", () -> {
             best("to 2 twice", evenings(3, 2, 3, 12, 4), 4, 2);
@@ -432,6 +473,7 @@ public final class BoundsThought {
         C.test("promise 15: of like ones fewest, then the least", () -> {
             best("WRONG 0", evenings(3, 1, 4, 2, 4), 4, 1);
             best("0 and 2 ahead of 1 and 2", evenings(4, 1, 4, 1, 4, 23, 4), 8, 5);
+            best("1 and 2 ahead of 0 and 3", evenings(4, 2, 4, 3, 4, 12, 4, 13, 4), 8, 6);
         });
         C.test("promise 15: what counts 0 is none of the fewest", () -> {
             ForgivenStreet x = evenings(4, 1, 3, 23, 3);
@@ -485,6 +527,17 @@ public final class BoundsThought {
                 x.mend(w, 5, 0);
                 C.due("again", x.ring(), 3);
             }
+        });
+        C.test("promise 16: a ring of those who come first, others are in none", () -> {
+            ForgivenStreet x = Streets.tenWeighing();
+            x.wrong(1, 1);
+            x.wrong(10, 1);
+            x.wrong(89, 1);
+            C.due("0 and 1", x.ring(), 2);
+        });
+        C.test("promise 16: the smallest of two, whichever comes first", () -> {
+            C.due("two, then three", evenings(5, 1, 5, 10, 5, 23, 5, 34, 5, 42, 5).ring(), 2);
+            C.due("three, then two", evenings(5, 1, 5, 12, 5, 20, 5, 34, 5, 43, 5).ring(), 2);
         });
         C.test("promise 16: a ring of those who come last", () -> {
             ForgivenStreet x = Streets.tenWeighing();

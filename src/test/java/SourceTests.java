@@ -6,7 +6,10 @@ import java.lang.reflect.Modifier;
 import java.nio.file.Files;
 import java.nio.file.Path;
 import java.util.HashSet;
+import java.util.List;
+import java.util.Map;
 import java.util.Set;
+import java.util.TreeMap;
 import java.util.TreeSet;
 import java.util.regex.Matcher;
 import java.util.regex.Pattern;
@@ -25,7 +28,9 @@ public final class SourceTests {
         String source = Files.readString(Path.of("src/main/java/ForgivenStreet.java"));
         face();
         words(source);
-        lengths(source);
+        Map<String, String> bodies = methods(source);
+        depths(bodies);
+        room(bodies);
         C.end("SourceTests");
     }
 
@@ -81,19 +86,60 @@ public final class SourceTests {
         while (statics.find()) C.holds(statics.group(1), Set.of("max", "min", "abs").contains(statics.group(1)));
     }
 
+    private static final Pattern CLASS = Pattern.compile("^    private static final class (\\w+)");
+    private static final Pattern HEAD = Pattern.compile("^( {4}| {8})(?=\\S)[\\w\\[\\] ]*?(\\w+)\\([^;]*\\) \\{$");
+    private static final Pattern CALL = Pattern.compile("(?:(\\w+)\\.)?(\\w+)\\(");
+    /** Of which class the fields and arguments are by which methods are called. */
+    private static final Map<String, String> HOLDERS = Map.of("folk", "Folk", "laws", "Law", "now", "Scene", "thought", "Scene", "kept", "Scene",
+        "scene", "Scene", "changes", "Changes", "shelves", "Shelves", "doors", "Doors", "eve", "Evening");
+
     /** A method's head stands on one line and its last bracket under the head's first sign. */
-    private static void lengths(String source) {
-        C.part("rule 11");
-        String[] lines = source.split("\n");
-        int methods = 0;
+    private static Map<String, String> methods(String source) {
+        String[] lines = bare(source).split("\n");
+        Map<String, String> bodies = new TreeMap<>();
+        String owner = "";
         for (int i = 0; i < lines.length; i++) {
-            Matcher head = Pattern.compile("^( {4}| {8})(?=\\S)[\\w\\[\\] ]*\\w+\\([^;]*\\) \\{$").matcher(lines[i]);
+            Matcher inner = CLASS.matcher(lines[i]);
+            if (inner.find()) owner = inner.group(1);
+            Matcher head = HEAD.matcher(lines[i]);
             if (!head.find()) continue;
-            methods++;
             int end = i;
             while (!lines[end].equals(head.group(1) + "}")) end++;
-            C.holds("line " + (i + 1) + " begins a method of at most sixty lines", end - i < 60);
+            String name = (head.group(1).length() == 8 ? owner : "") + "." + head.group(2);
+            C.holds(name + " stands once", bodies.put(name, String.join("\n", List.of(lines).subList(i + 1, end))) == null);
+            C.holds(name + " has at most sixty lines", end - i < 60);
+            i = end;
         }
-        C.holds("methods were seen", methods > 100);
+        C.holds("methods were seen", bodies.size() > 100);
+        return bodies;
+    }
+
+    private static void depths(Map<String, String> bodies) {
+        C.part("rule 11");
+        for (String name : bodies.keySet()) {
+            int depth = depth(name, bodies, new HashSet<>());
+            C.holds(name + " goes at most eight deep, not " + depth, depth <= 8);
+        }
+    }
+
+    /** How many methods are open at once below one, each counted once. */
+    private static int depth(String name, Map<String, String> bodies, Set<String> open) {
+        open.add(name);
+        int deepest = 0;
+        Matcher call = CALL.matcher(bodies.get(name));
+        while (call.find()) {
+            String own = name.substring(0, name.indexOf('.'));
+            String holder = call.group(1) == null ? own : HOLDERS.getOrDefault(call.group(1), "?");
+            String called = holder + "." + call.group(2);
+            if (bodies.containsKey(called) && !open.contains(called)) deepest = Math.max(deepest, depth(called, bodies, open));
+        }
+        open.remove(name);
+        return deepest + 1;
+    }
+
+    /** The room is one for all calls: what an object needs is made with it. */
+    private static void room(Map<String, String> bodies) {
+        C.part("rule 12");
+        for (String name : bodies.keySet()) C.holds(name + " makes nothing", !bodies.get(name).contains("new "));
     }
 }
